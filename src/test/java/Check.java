@@ -1,0 +1,76 @@
+/** Counts answers that are not as due, and tells them. */
+final class Check {
+    private int wrong;
+    private int asked;
+    private String part = "";
+
+    void part(String name) {
+        part = name;
+    }
+
+    void due(String call, long got, long want) {
+        asked++;
+        if (got != want) {
+            wrong++;
+            System.out.println(part + ": " + call + " answered " + got + ", due is " + want);
+        }
+    }
+
+    void due(String call, boolean got, boolean want) {
+        due(call, got ? 1 : 0, want ? 1 : 0);
+    }
+
+    /** The exception must be of that very class: what the machine throws by itself is of one below it. */
+    void dueThrow(String call, Class<? extends RuntimeException> want, Runnable run) {
+        asked++;
+        Class<?> got = null;
+        try {
+            run.run();
+        } catch (RuntimeException e) {
+            got = e.getClass();
+        }
+        if (got != want) {
+            wrong++;
+            System.out.println(part + ": " + call + " threw " + got + ", due is " + want);
+        }
+    }
+
+    void outOfBounds(String call, Runnable run) {
+        dueThrow(call, IndexOutOfBoundsException.class, run);
+    }
+
+    void badArgument(String call, Runnable run) {
+        dueThrow(call, IllegalArgumentException.class, run);
+    }
+
+    void badState(String call, Runnable run) {
+        dueThrow(call, IllegalStateException.class, run);
+    }
+
+    void finish() {
+        System.out.println(wrong == 0 ? "all " + asked + " answers are as due" : wrong + " of " + asked + " are not as due");
+        if (wrong != 0) {
+            System.exit(1);
+        }
+    }
+
+    /** Brings a text on the tape, padded to whole feeds with zero bytes; false if it found no room. */
+    static boolean feed(PolicyTree x, String text) {
+        for (int at = 0; at < text.length(); at += 20) {
+            int[] numbers = new int[5];
+            for (int i = 0; i < 20; i++) {
+                int sign = at + i < text.length() ? text.charAt(at + i) & 255 : 0;
+                numbers[i / 4] |= sign << 24 - i % 4 * 8;
+            }
+            if (x.feed(numbers[0], numbers[1], numbers[2], numbers[3], numbers[4]) == PolicyTree.NONE) {
+                return false;
+            }
+        }
+        return true;
+    }
+
+    static int link(PolicyTree x, int node, int set, int order, boolean forced, String text) {
+        feed(x, text);
+        return x.link(node, set, order, forced, text.length());
+    }
+}
