@@ -200,7 +200,7 @@ public final class PolicyTree {
 
     public int reason(int machine, int setting) throws IndexOutOfBoundsException, IllegalArgumentException {
         findOutcome(machine, setting);
-        Link link = outcome.link();
+        Link link = outcome.teller();
         return link == null ? NONE : link.number;
     }
 
@@ -209,7 +209,7 @@ public final class PolicyTree {
         int passed = 0;
         for (int i = 0; i < row.size(); i++) {
             Link link = row.linkAt(i);
-            if (link == null || link == outcome.link() || !row.holds(i, 0)) {
+            if (link == null || link == outcome.teller() || !row.holds(i, 0)) {
                 continue;
             }
             if (passed == k) {
@@ -1077,7 +1077,7 @@ public final class PolicyTree {
             return size;
         }
 
-        Link link() {
+        Link teller() {
             return link;
         }
 

@@ -20,16 +20,23 @@ final class Check {
         due(call, got ? 1 : 0, want ? 1 : 0);
     }
 
-    /** The exception must be of that very class: what the machine throws by itself is of one below it. */
-    void dueThrow(String call, Class<? extends RuntimeException> want, Runnable run) {
+    /** The exception's name; the class must throw it by itself, not leave it to the machine or the library. */
+    static String name(RuntimeException e) {
+        StackTraceElement[] trace = e.getStackTrace();
+        boolean own = trace.length > 0 && trace[0].getClassName().startsWith("PolicyTree");
+        return own ? e.getClass().getSimpleName() : "from outside: " + e;
+    }
+
+    void dueThrow(String call, Class<? extends RuntimeException> due, Runnable run) {
         asked++;
-        Class<?> got = null;
+        String want = due.getSimpleName();
+        String got = "nothing";
         try {
             run.run();
         } catch (RuntimeException e) {
-            got = e.getClass();
+            got = name(e);
         }
-        if (got != want) {
+        if (!got.equals(want)) {
             wrong++;
             System.out.println(part + ": " + call + " threw " + got + ", due is " + want);
         }

@@ -165,6 +165,14 @@ public final class PromiseTests {
         CHECK.due("back", x.move(1, 0), 3);
         x.block(1, true);
         CHECK.due("nothing changes", x.move(1, 2), 0);
+        PolicyTree y = new PolicyTree();
+        y.node(0);
+        y.node(0);
+        y.machine(1);
+        y.set();
+        y.tell(0, 0, 1);
+        y.link(2, 0, 0, false, 0);
+        CHECK.due("machine 0 counts", y.move(1, 2), 1);
     }
 
     private static void machine() {
@@ -502,6 +510,7 @@ public final class PromiseTests {
         CHECK.due("LEAST: the first with it", x.reason(0, 0), 3);
         x.law(0, 2);
         CHECK.due("LIST: the last, though its value came before", x.reason(0, 0), 0);
+        CHECK.due("of a setting untold, behind one that is told", x.reason(0, 1), -1);
         CHECK.badArgument("setting 12", () -> x.reason(0, 12));
         CHECK.badArgument("setting -1", () -> x.reason(0, -1));
         CHECK.outOfBounds("machine 1", () -> x.reason(1, 12));
@@ -521,6 +530,7 @@ public final class PromiseTests {
         CHECK.due("first", x.beaten(0, 0, 0), 3);
         CHECK.due("second", x.beaten(0, 0, 1), 1);
         CHECK.due("no third", x.beaten(0, 0, 2), -1);
+        CHECK.due("of a setting untold", x.beaten(0, 1, 0), -1);
         x.law(0, 1);
         CHECK.due("of LEAST, first", x.beaten(0, 0, 0), 3);
         CHECK.due("of LEAST, second", x.beaten(0, 0, 1), 0);
