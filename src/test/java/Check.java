@@ -54,6 +54,15 @@ final class Check {
         dueThrow(call, IllegalStateException.class, run);
     }
 
+    /** These are the values of an outcome, in their order, and no more. */
+    void dueValues(String what, PolicyTree x, int machine, int setting, int... values) {
+        due(what + ": outcome", x.outcome(machine, setting), values.length);
+        for (int i = 0; i < values.length; i++) {
+            due(what + ": value " + i, x.value(machine, setting, i), values[i]);
+        }
+        due(what + ": value behind", x.value(machine, setting, values.length), 0);
+    }
+
     void finish() {
         System.out.println(wrong == 0 ? "all " + asked + " answers are as due" : wrong + " of " + asked + " are not as due");
         if (wrong != 0) {
@@ -79,5 +88,16 @@ final class Check {
     static int link(PolicyTree x, int node, int set, int order, boolean forced, String text) {
         feed(x, text);
         return x.link(node, set, order, forced, text.length());
+    }
+
+    /** A machine at the root, and sets that tell these values of setting 0. */
+    static PolicyTree telling(int... values) {
+        PolicyTree x = new PolicyTree();
+        x.machine(0);
+        for (int i = 0; i < values.length; i++) {
+            x.set();
+            x.tell(i, 0, values[i]);
+        }
+        return x;
     }
 }

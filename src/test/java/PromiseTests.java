@@ -47,24 +47,6 @@ public final class PromiseTests {
         return x;
     }
 
-    /** A machine at the root, and sets that tell these values of setting 0. */
-    private static PolicyTree telling(int... values) {
-        PolicyTree x = sets(values.length);
-        x.machine(0);
-        for (int i = 0; i < values.length; i++) {
-            x.tell(i, 0, values[i]);
-        }
-        return x;
-    }
-
-    private static void dueValues(String what, PolicyTree x, int machine, int setting, int... values) {
-        CHECK.due(what + ": outcome", x.outcome(machine, setting), values.length);
-        for (int i = 0; i < values.length; i++) {
-            CHECK.due(what + ": value " + i, x.value(machine, setting, i), values[i]);
-        }
-        CHECK.due(what + ": value behind", x.value(machine, setting, values.length), 0);
-    }
-
     private static void newObject() {
         CHECK.part("1 new object");
         PolicyTree x = new PolicyTree();
@@ -96,7 +78,7 @@ public final class PromiseTests {
 
     private static void block() {
         CHECK.part("3 block");
-        PolicyTree x = telling(1, 2, 3, 4);
+        PolicyTree x = Check.telling(1, 2, 3, 4);
         x.node(0);
         x.node(1);
         x.machine(2);
@@ -105,17 +87,17 @@ public final class PromiseTests {
         x.link(2, 2, 0, false, 0);
         x.link(0, 3, 0, true, 0);
         x.law(0, 2);
-        dueValues("open", x, 1, 0, 1, 2, 3, 4);
+        CHECK.dueValues("open", x, 1, 0, 1, 2, 3, 4);
         CHECK.due("block 1", x.block(1, true), false);
-        dueValues("the links of a blocked node itself stay", x, 1, 0, 2, 3, 4);
+        CHECK.dueValues("the links of a blocked node itself stay", x, 1, 0, 2, 3, 4);
         CHECK.due("again", x.block(1, true), true);
         CHECK.due("block 2", x.block(2, true), false);
-        dueValues("the lowest blocked node counts", x, 1, 0, 3, 4);
-        dueValues("no machine outside", x, 0, 0, 1, 4);
+        CHECK.dueValues("the lowest blocked node counts", x, 1, 0, 3, 4);
+        CHECK.dueValues("no machine outside", x, 0, 0, 1, 4);
         CHECK.due("open 2", x.block(2, false), true);
-        dueValues("open again", x, 1, 0, 2, 3, 4);
+        CHECK.dueValues("open again", x, 1, 0, 2, 3, 4);
         CHECK.due("root", x.block(0, true), false);
-        dueValues("a blocked root blocks nothing", x, 0, 0, 1, 4);
+        CHECK.dueValues("a blocked root blocks nothing", x, 0, 0, 1, 4);
         CHECK.outOfBounds("block(3)", () -> x.block(3, true));
         CHECK.outOfBounds("block(-1)", () -> x.block(-1, true));
     }
@@ -143,7 +125,7 @@ public final class PromiseTests {
 
     private static void moveCounts() {
         CHECK.part("4 move counts");
-        PolicyTree x = telling(1, 2, 1);
+        PolicyTree x = Check.telling(1, 2, 1);
         x.node(0);
         x.node(0);
         x.node(1);
@@ -154,14 +136,14 @@ public final class PromiseTests {
         x.link(1, 0, 0, false, 0);
         x.link(2, 1, 0, false, 0);
         CHECK.due("two machines, two settings", x.move(3, 2), 4);
-        dueValues("moved", x, 1, 0, 2);
-        dueValues("told no more", x, 1, 5);
+        CHECK.dueValues("moved", x, 1, 0, 2);
+        CHECK.dueValues("told no more", x, 1, 5);
         x.link(0, 2, 0, true, 0);
         CHECK.due("a like value by another link is no change", x.move(3, 1), 2);
         x.law(0, 2);
         Check.link(x, 0, 1, 7, false, "node 2");
         CHECK.due("filters see the moved node", x.move(1, 2), 3);
-        dueValues("below 2 now", x, 3, 0, 2, 1);
+        CHECK.dueValues("below 2 now", x, 3, 0, 2, 1);
         CHECK.due("back", x.move(1, 0), 3);
         x.block(1, true);
         CHECK.due("nothing changes", x.move(1, 2), 0);
@@ -313,10 +295,10 @@ public final class PromiseTests {
         CHECK.due("of 11", x.tell(0, 11, HIGH), true);
         x.machine(0);
         x.link(0, 0, 0, false, 0);
-        dueValues("told", x, 0, 0, LOW);
-        dueValues("told of 11", x, 0, 11, HIGH);
+        CHECK.dueValues("told", x, 0, 0, LOW);
+        CHECK.dueValues("told of 11", x, 0, 11, HIGH);
         x.tell(0, 0, 7);
-        dueValues("told behind the link", x, 0, 0, 7);
+        CHECK.dueValues("told behind the link", x, 0, 0, 7);
         CHECK.badArgument("setting 12", () -> x.tell(0, 12, 0));
         CHECK.badArgument("setting -1", () -> x.tell(0, -1, 0));
         CHECK.outOfBounds("set 1", () -> x.tell(1, 0, 0));
@@ -325,7 +307,7 @@ public final class PromiseTests {
 
     private static void untell() {
         CHECK.part("13 untell");
-        PolicyTree x = telling(5);
+        PolicyTree x = Check.telling(5);
         x.link(0, 0, 0, false, 0);
         CHECK.due("untell", x.untell(0, 0), true);
         CHECK.due("outcome", x.outcome(0, 0), 0);
@@ -373,7 +355,7 @@ public final class PromiseTests {
 
     private static void link() {
         CHECK.part("16 link");
-        PolicyTree x = telling(1, 2, 3, 4, 5, 6);
+        PolicyTree x = Check.telling(1, 2, 3, 4, 5, 6);
         x.law(0, 2);
         CHECK.due("order 50", x.link(0, 0, 50, false, 0), 0);
         CHECK.due("order 99", x.link(0, 1, 99, false, 0), 1);
@@ -381,14 +363,14 @@ public final class PromiseTests {
         CHECK.due("order 50 later", x.link(0, 3, 50, false, 0), 3);
         CHECK.due("forced, order 7", x.link(0, 4, 7, true, 0), 4);
         CHECK.due("forced, order 3", x.link(0, 5, 3, true, 0), 5);
-        dueValues("by order, then number", x, 0, 0, 3, 1, 4, 2, 6, 5);
+        CHECK.dueValues("by order, then number", x, 0, 0, 3, 1, 4, 2, 6, 5);
         x.feed(0x66616374, 0x20300000, 0, 0, 0);
         CHECK.due("the first bytes alone", x.link(0, 0, 0, false, 6), 6);
         CHECK.due("the tape is empty", x.count(6), 0);
         CHECK.due("a fault", Check.link(x, 0, 0, 0, false, "fact"), -9);
         CHECK.due("empty behind a fault, too", x.count(6), 0);
         CHECK.due("a fault tells no link", x.count(4), 7);
-        PolicyTree y = telling(1, 2, 3, 4);
+        PolicyTree y = Check.telling(1, 2, 3, 4);
         y.node(0);
         y.node(1);
         y.machine(2);
@@ -397,7 +379,7 @@ public final class PromiseTests {
         y.link(1, 1, 0, false, 0);
         y.link(0, 2, 9, true, 0);
         y.link(2, 3, 9, true, 0);
-        dueValues("down the way, then up for forced ones", y, 1, 0, 2, 1, 4, 3);
+        CHECK.dueValues("down the way, then up for forced ones", y, 1, 0, 2, 1, 4, 3);
     }
 
     private static void linkThrows() {
@@ -441,23 +423,23 @@ public final class PromiseTests {
 
     private static void end() {
         CHECK.part("18 end");
-        PolicyTree x = telling(1, 2);
+        PolicyTree x = Check.telling(1, 2);
         CHECK.outOfBounds("end(0)", () -> x.end(0));
         x.link(0, 0, 0, false, 0);
         x.link(0, 1, 0, false, 0);
         CHECK.due("ends", x.end(1), true);
-        dueValues("without it", x, 0, 0, 1);
+        CHECK.dueValues("without it", x, 0, 0, 1);
         CHECK.due("had ended", x.end(1), false);
         CHECK.due("number told", x.link(0, 1, 0, false, 0), 2);
         CHECK.due("the first", x.end(0), true);
-        dueValues("the third", x, 0, 0, 2);
+        CHECK.dueValues("the third", x, 0, 0, 2);
         CHECK.outOfBounds("end(3)", () -> x.end(3));
         CHECK.outOfBounds("end(-1)", () -> x.end(-1));
     }
 
     private static void outcome() {
         CHECK.part("19 outcome");
-        PolicyTree x = telling(4, 2, 4, 9);
+        PolicyTree x = Check.telling(4, 2, 4, 9);
         CHECK.due("none", x.outcome(0, 0), 0);
         for (int i = 0; i < 4; i++) {
             x.link(0, i, i, false, 0);
@@ -476,22 +458,22 @@ public final class PromiseTests {
 
     private static void value() {
         CHECK.part("20 value");
-        PolicyTree x = telling(4, -2, 4, 9);
+        PolicyTree x = Check.telling(4, -2, 4, 9);
         for (int i = 0; i < 4; i++) {
             x.link(0, i, i, false, 0);
         }
-        dueValues("LAST", x, 0, 0, 9);
+        CHECK.dueValues("LAST", x, 0, 0, 9);
         x.law(0, 1);
-        dueValues("LEAST", x, 0, 0, -2);
+        CHECK.dueValues("LEAST", x, 0, 0, -2);
         x.law(0, 2);
-        dueValues("LIST", x, 0, 0, 4, -2, 9);
+        CHECK.dueValues("LIST", x, 0, 0, 4, -2, 9);
         CHECK.due("k -1", x.value(0, 0, -1), 0);
         CHECK.due("k LOW", x.value(0, 0, LOW), 0);
         CHECK.due("k HIGH", x.value(0, 0, HIGH), 0);
         x.tell(1, 0, LOW);
         x.tell(3, 0, HIGH);
         x.law(0, 1);
-        dueValues("the least of all", x, 0, 0, LOW);
+        CHECK.dueValues("the least of all", x, 0, 0, LOW);
         CHECK.badArgument("setting 12", () -> x.value(0, 12, 0));
         CHECK.badArgument("setting -1", () -> x.value(0, -1, 0));
         CHECK.outOfBounds("machine 1", () -> x.value(1, -1, 0));
@@ -500,7 +482,7 @@ public final class PromiseTests {
 
     private static void reason() {
         CHECK.part("21 reason");
-        PolicyTree x = telling(4, -2, 4, -2);
+        PolicyTree x = Check.telling(4, -2, 4, -2);
         CHECK.due("without", x.reason(0, 0), -1);
         for (int i = 0; i < 4; i++) {
             x.link(0, i, 9 - i, false, 0);
@@ -519,7 +501,7 @@ public final class PromiseTests {
 
     private static void beaten() {
         CHECK.part("22 beaten");
-        PolicyTree x = telling(4, -2, 4, 8);
+        PolicyTree x = Check.telling(4, -2, 4, 8);
         x.untell(3, 0);
         CHECK.due("without", x.beaten(0, 0, 0), -1);
         x.link(0, 0, 5, false, 0);
@@ -550,7 +532,7 @@ public final class PromiseTests {
     private static void sure() {
         CHECK.part("23 sure");
         for (int f = 0; f < 8; f++) {
-            PolicyTree x = telling(1, 2, 1);
+            PolicyTree x = Check.telling(1, 2, 1);
             CHECK.due("nothing told", x.sure(0, 0), true);
             x.link(0, 0, 0, false, 0);
             CHECK.due("no filter", x.sure(0, 0), true);
@@ -569,7 +551,7 @@ public final class PromiseTests {
             x.end(doubtful);
             CHECK.due("the value is the same, whichever link tells it", x.sure(0, 0), true);
         }
-        PolicyTree x = telling(1, 2, 3);
+        PolicyTree x = Check.telling(1, 2, 3);
         Check.link(x, 0, 0, 0, false, "fact 6");
         Check.link(x, 0, 0, 0, false, "not fact 6");
         CHECK.due("one of two holds always", x.sure(0, 0), true);
@@ -585,7 +567,7 @@ public final class PromiseTests {
 
     private static void sureOfLists() {
         CHECK.part("23 sure of lists");
-        PolicyTree x = telling(1, 2);
+        PolicyTree x = Check.telling(1, 2);
         x.law(0, 2);
         x.link(0, 0, 1, false, 0);
         x.link(0, 1, 2, false, 0);
@@ -598,7 +580,7 @@ public final class PromiseTests {
 
     private static void reach() {
         CHECK.part("24 reach");
-        PolicyTree x = telling(1, 2, 2);
+        PolicyTree x = Check.telling(1, 2, 2);
         x.node(0);
         x.machine(1);
         x.machine(1);
@@ -623,7 +605,7 @@ public final class PromiseTests {
         CHECK.due("holds once", x.reach(filtered), 1);
         CHECK.outOfBounds("link 4", () -> x.reach(4));
         CHECK.outOfBounds("link -1", () -> x.reach(-1));
-        PolicyTree y = telling(1, 2);
+        PolicyTree y = Check.telling(1, 2);
         y.law(0, 2);
         y.link(0, 0, 0, false, 0);
         y.link(0, 1, 1, false, 0);
@@ -634,7 +616,7 @@ public final class PromiseTests {
 
     private static void reached() {
         CHECK.part("25 reached");
-        PolicyTree x = telling(1);
+        PolicyTree x = Check.telling(1);
         x.machine(0);
         x.tell(0, 3, 5);
         x.tell(0, 11, 6);
@@ -660,7 +642,7 @@ public final class PromiseTests {
 
     private static void quarrels() {
         CHECK.part("26 quarrels");
-        PolicyTree x = telling(1, 2, 1);
+        PolicyTree x = Check.telling(1, 2, 1);
         x.node(0);
         x.tell(0, 5, 1);
         x.tell(1, 5, 2);
@@ -685,7 +667,7 @@ public final class PromiseTests {
         CHECK.due("one ended", x.quarrels(), 1);
         x.untell(1, 0);
         CHECK.due("untold", x.quarrels(), 0);
-        PolicyTree y = telling(1, 2);
+        PolicyTree y = Check.telling(1, 2);
         y.link(0, 0, 4, true, 0);
         y.link(0, 1, 4, true, 0);
         CHECK.due("both forced", y.quarrels(), 1);
@@ -693,7 +675,7 @@ public final class PromiseTests {
 
     private static void quarrel() {
         CHECK.part("27 quarrel");
-        PolicyTree x = telling(1, 2, 3);
+        PolicyTree x = Check.telling(1, 2, 3);
         CHECK.due("none", x.quarrel(0, 0), -1);
         x.link(0, 0, 4, false, 0);
         x.link(0, 0, 4, false, 0);
