@@ -9,7 +9,6 @@ public final class EdgeTests {
     private static final int HIGH = Integer.MAX_VALUE;
     private static final Class<IndexOutOfBoundsException> BOUNDS = IndexOutOfBoundsException.class;
     private static final Class<IllegalArgumentException> ARGUMENT = IllegalArgumentException.class;
-    private static final Class<IllegalStateException> STATE = IllegalStateException.class;
     private static final int BLANKS = 0x20202020;
     private static Doc doc;
 
@@ -99,6 +98,7 @@ public final class EdgeTests {
         CHECK.badState("at the last", () -> x.node(59));
         CHECK.outOfBounds("none such goes first", () -> x.node(60));
         CHECK.due("still 60", x.count(0), 60);
+        Scene.refusedWhenFull(CHECK, "node", 60 - Scene.NODES, y -> y.node(3));
         CHECK.outOfBounds("60 is none", () -> x.block(60, true));
     }
 
@@ -182,6 +182,7 @@ public final class EdgeTests {
         CHECK.badState("a 61st", () -> x.machine(0));
         CHECK.outOfBounds("none such goes first", () -> x.machine(2));
         CHECK.due("still 60", x.count(1), 60);
+        Scene.refusedWhenFull(CHECK, "machine", 60 - Scene.MACHINES, y -> y.machine(3));
         CHECK.outOfBounds("60 is none", () -> x.outcome(60, 0));
     }
 
@@ -220,6 +221,7 @@ public final class EdgeTests {
         CHECK.badState("a 21st", () -> x.group());
         CHECK.badState("and again", () -> x.group());
         CHECK.due("still 20", x.count(2), 20);
+        Scene.refusedWhenFull(CHECK, "group", 20 - Scene.GROUPS, y -> y.group());
         CHECK.outOfBounds("20 is none", () -> x.within(20, 0, true));
     }
 
@@ -310,6 +312,7 @@ public final class EdgeTests {
         CHECK.badState("a 41st", () -> x.set());
         CHECK.badState("and again", () -> x.set());
         CHECK.due("still 40", x.count(3), 40);
+        Scene.refusedWhenFull(CHECK, "set", 40 - Scene.SETS, y -> y.set());
         CHECK.outOfBounds("40 is none", () -> x.untell(40, 0));
         CHECK.outOfBounds("40 is none to link", () -> x.link(0, 40, 0, false, 0));
     }
@@ -467,6 +470,7 @@ public final class EdgeTests {
         CHECK.due("99 links and a fault", Check.link(y, 0, 0, 0, false, "or"), -9);
         CHECK.due("that was no 100th", y.link(0, 0, 0, false, 0), 99);
         CHECK.badState("this was", () -> y.link(0, 0, 0, false, 0));
+        Scene.refusedWhenFull(CHECK, "link", 100 - Scene.LINKS, z -> z.link(3, 5, 0, true, 0));
     }
 
     private static void fault() {

@@ -1,4 +1,5 @@
 import java.util.function.Consumer;
+import java.util.function.IntSupplier;
 
 /**
  * A small tree with a bit of everything, and all that can be seen of it as one text; so that a call that is refused
@@ -143,11 +144,20 @@ final class Scene {
             }
             add("untell " + t + " 11", x.untell(t, 11));
         }
-        add("link", x.link(0, 0, 0, false, Math.min(6, x.count(6))));
-        add("node", x.node(0));
-        add("machine", x.machine(0));
-        add("group", x.group());
-        add("set", x.set());
+        addNew("link", () -> x.link(0, 0, 0, false, Math.min(6, x.count(6))));
+        addNew("node", () -> x.node(0));
+        addNew("machine", () -> x.machine(0));
+        addNew("group", () -> x.group());
+        addNew("set", () -> x.set());
+    }
+
+    /** A number, or that there are as many as may be. */
+    private void addNew(String what, IntSupplier call) {
+        try {
+            add(what, call.getAsInt());
+        } catch (IllegalStateException e) {
+            seen.append(what).append(" no more\n");
+        }
     }
 
     /** The call throws this by its own throw, and nothing that can be seen is another one behind it. */
@@ -158,7 +168,24 @@ final class Scene {
     }
 
     static void unchanged(Check check, String call, PolicyTree called) {
-        String[] before = see(make()).split("\n");
+        same(check, call, make(), called);
+    }
+
+    /** Likewise in a scene where the call was made before, till there are so many. */
+    static void refusedWhenFull(Check check, String call, int left, Consumer<PolicyTree> run) {
+        PolicyTree[] twins = {make(), make()};
+        for (PolicyTree x : twins) {
+            for (int i = 0; i < left; i++) {
+                run.accept(x);
+            }
+        }
+        check.badState(call + ", one more", () -> run.accept(twins[1]));
+        check.badState(call + ", and again", () -> run.accept(twins[1]));
+        same(check, call + ", one more,", twins[0], twins[1]);
+    }
+
+    private static void same(Check check, String call, PolicyTree due, PolicyTree called) {
+        String[] before = see(due).split("\n");
         String[] after = see(called).split("\n");
         for (int i = 0; i < before.length; i++) {
             check.due(call + " changes nothing: " + before[i] + " is now " + after[i], before[i].equals(after[i]), true);
